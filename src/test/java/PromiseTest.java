@@ -307,6 +307,9 @@ public final class PromiseTest {
         due("balance", bench(100, 2, 0, 8, 4, 2).trail(0, 10), 5);
         due("stages", bench(100, 3, 50, 50, 50, 50).trail(0, 49), 6);
         due("folded", bench(100, 4, 50, 100, 100, 100).trail(0, 60), 3);
+        StepMeters again = bench(100, 0, 0, 10, 4, 30);
+        due("edges", again.trail(0, 30), 7);
+        due("edges, less", again.trail(0, 3), 0);
         StepMeters x = bench(10, 0, 0);
         for (int k = 0; k < 16; k++) {
             x.part(0, 3, 0);
@@ -372,6 +375,7 @@ public final class PromiseTest {
         b.worth(0, 1, 3);
         b.worth(0, 0, 0);
         due("0, 3, 0, 3", b.spans(0), 4);
+        due("each number one", bench(15, 2, 0, 8, 4, 2, 1).spans(0), 16);
         due("no PARTS", bench(4095, 3, 0).spans(0), 1);
     }
 
@@ -392,6 +396,12 @@ public final class PromiseTest {
         due("trouble", x.trouble(), 0);
         x.miss(0, 0, -1);
         due("after a MISS", x.span(0, 0, 1), 1);
+        StepMeters each = bench(15, 2, 0, 8, 4, 2, 1);
+        due("the first number alone", each.span(0, 0, 1), 0);
+        due("the second one", each.span(0, 1, 0), 1);
+        due("the last number alone", each.span(0, 15, 0), 15);
+        due("the last number alone", each.span(0, 15, 1), 15);
+        due("and no more", each.span(0, 16, 0), LEAST);
         add(x, 0, 0, 5);
         due("of another METER", x.span(1, 0, 1), 4);
         due("of the first again", x.span(0, 0, 1), 1);
@@ -407,6 +417,9 @@ public final class PromiseTest {
         b.worth(0, 0, -8000);
         b.worth(0, 1, 8000);
         due("far from one another", b.codes(0), 3);
+        due("once more", b.codes(0), 3);
+        due("0 64 128 192", bench(192, 2, 0, 128, 64).codes(0), 4);
+        due("0 64 128 .. by sixteen", bench(4095, 2, 0, 512, 256, 128, 64).codes(0), 16);
         due("no PARTS", bench(9, 0, 0).codes(0), 1);
         refused(x, "no METER", x.codes(1), -1, 2);
     }
@@ -429,6 +442,16 @@ public final class PromiseTest {
             w.worth(0, k, 8000);
         }
         due("as great as set", w.lacks(0), 128000);
+        StepMeters first = bench(9, 2, 0, 1, 0);
+        first.worth(0, 1, 5);
+        first.worth(0, 0, -5);
+        due("5 at 0 and 0 behind it", first.lacks(0), 4);
+        StepMeters second = bench(9, 2, 0, 2, 1);
+        second.worth(0, 0, 0);
+        second.worth(0, 1, 5);
+        due("0 5 0 5", second.lacks(0), 4);
+        second.range(2);
+        due("0 5 0", second.lacks(0), 4);
         StepMeters c = bench(4095, 2, 0, -8000, 8000, 8000);
         c.miss(0, 1, 500);
         c.mend(0);
@@ -444,6 +467,13 @@ public final class PromiseTest {
         due("3 before 2", x.back(0), 6);
         x.worth(0, 1, -1);
         due("0 before -1", x.back(0), 3);
+        StepMeters first = bench(9, 2, 0, 1, 0);
+        first.worth(0, 1, 5);
+        first.worth(0, 0, -5);
+        due("the number 1", first.back(0), 1);
+        first.worth(0, 0, 5);
+        due("no more", first.back(0), -2);
+        due("5 0 only once", bench(9, 2, 0, 6, 3).back(0), -2);
         due("one code", bench(9, 0, 0).back(0), -2);
         StepMeters last = bench(9, 2, 0, 9, 3);
         last.worth(0, 0, 0);
@@ -505,6 +535,7 @@ public final class PromiseTest {
         refused(x, "what -1", x.line(0, -1), -1, 1);
         refused(x, "no METER", x.line(1, 2), -1, 2);
         StepMeters one = bench(9, 0, 0, 4);
+        due("two at the last number", bench(9, 0, 0, 2, 9, 9).line(0, 0), 7);
         refused(one, "one code only", one.line(0, 0), -1, 5);
         refused(one, "what ahead of it", one.line(0, 7), -1, 1);
         one.part(0, 9, 0);
@@ -570,6 +601,9 @@ public final class PromiseTest {
         StepMeters great = bench(99, 2, 0, 0, 1);
         great.worth(0, 0, 50);
         due("below 0", great.tail(0), -50);
+        great.worth(0, 1, 60);
+        due("0 is told too", great.tail(0), -50);
+        due("0 is the first number", bench(99, 2, 0, 2).tail(0), 1);
         refused(x, "no METER", x.tail(1), -1, 2);
         for (int kind : new int[] {0, 1, 3, 4}) {
             StepMeters other = bench(9, kind, 0, 1);
@@ -779,6 +813,24 @@ public final class PromiseTest {
         }
         due("9 and 19", g.shows(), 2);
         due("size(3)", g.size(3), 6);
+        StepMeters ends = bench(30, 0, 0, 0, 30);
+        ends.fault(0, 0, 1);
+        due("0 alone", ends.shows(), 1);
+        ends.fault(0, 1, 1);
+        due("and RANGE alone", ends.shows(), 2);
+        ends.clear();
+        due("none", ends.shows(), 0);
+        ends.fault(0, 1, 1);
+        due("RANGE alone", ends.shows(), 1);
+        ends.fault(0, 1, 0);
+        due("and one that none shows", ends.shows(), 1);
+        StepMeters wide = new StepMeters();
+        wide.range(4095);
+        for (int m = 0; m < 7; m++) {
+            add(wide, 0, 0, 500 * m);
+            wide.fault(m, 0, 500);
+        }
+        due("each shown often", wide.shows(), 7);
         StepMeters ten = new StepMeters();
         ten.range(100);
         ten.meter(0);
@@ -823,6 +875,16 @@ public final class PromiseTest {
         add(x, 0, 0, 10, 20, 10);
         x.fault(1, 0, 5);
         due("another METER's doesn't count", x.alike(), 4);
+        StepMeters ends = bench(30, 0, 0, 0, 30);
+        ends.fault(0, 0, 0);
+        ends.fault(0, 0, 1);
+        due("0 alone", ends.alike(), 0);
+        ends.fault(0, 1, 1);
+        due("RANGE alone", ends.alike(), 0);
+        ends.clear();
+        ends.fault(0, 1, 0);
+        ends.fault(0, 1, 1);
+        due("RANGE alone", ends.alike(), 0);
         x.fault(1, 1, 25);
         x.fault(1, 1, 30);
         due("beyond RANGE", x.alike(), 5);
@@ -840,6 +902,7 @@ public final class PromiseTest {
         x.miss(0, 0, 4);
         due("10 - 14 is below 0", x.beyond(0), 10);
         due("none taken off: 11 doubled", bench(20, 3, 100, 10).beyond(0), 11);
+        due("the last number", bench(20, 2, 0, 21, -1).beyond(0), 20);
         due("balance", bench(20, 2, 0, 5).beyond(0), -2);
         due("balance below 0", bench(20, 2, 0, -5).beyond(0), 16);
         due("edges below 0", bench(20, 0, 0, -21).beyond(0), 0);
@@ -881,6 +944,7 @@ public final class PromiseTest {
         due("undo", x.undo(), 1);
         due("range", x.size(0), 255);
         due("none", x.undo(), 0);
+        due("a METER ahead", x.meter(0), 0);
         int m = add(x, 3, 5, 5, 6);
         x.worth(m, 0, 99);
         x.worth(m, 0, 98);
@@ -906,13 +970,26 @@ public final class PromiseTest {
         due("FAULTS of it are gone", x.size(3), 2);
         due("the others stay in order: MISS 1 of PART 0", x.showing(8), 1);
         x.undo();
+        due("a WORTH", x.partOf(m, 0, 2), 2);
         x.undo();
         due("and of PART 1", x.size(3), 1);
+        due("parts", x.kind(m, 1), 1);
         x.undo();
+        due("parts", x.kind(m, 1), 0);
+        due("and of PART 0", x.size(3), 0);
         x.undo();
-        due("and of the METER", x.size(3), 0);
+        due("meters", x.size(1), 1);
+        x.undo();
         due("meters", x.size(1), 0);
         due("acts", x.size(4), 0);
+        StepMeters y = bench(9, 2, 0, 5);
+        add(y, 2, 0, 7);
+        y.miss(1, 0, 1);
+        y.mend(1);
+        due("mended", y.partOf(1, 0, 2), 8);
+        y.undo();
+        due("not mended", y.partOf(1, 0, 2), 7);
+        due("nor the other", y.partOf(0, 0, 2), 5);
         x.noise(1, 1);
         x.part(5, 1, 1);
         due("no acts", x.undo(), 0);
