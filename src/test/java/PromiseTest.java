@@ -420,6 +420,14 @@ public final class PromiseTest {
         due("once more", b.codes(0), 3);
         due("0 64 128 192", bench(192, 2, 0, 128, 64).codes(0), 4);
         due("0 64 128 .. by sixteen", bench(4095, 2, 0, 512, 256, 128, 64).codes(0), 16);
+        StepMeters least = bench(9, 2, 0);
+        for (int k = 0; k < 16; k++) {
+            least.part(0, -8000, 0);
+            least.miss(0, k, -500);
+        }
+        least.mend(0);
+        due("the least code there can be", least.read(0, 0), -136000);
+        due("alone", least.codes(0), 1);
         due("no PARTS", bench(9, 0, 0).codes(0), 1);
         refused(x, "no METER", x.codes(1), -1, 2);
     }
@@ -824,6 +832,14 @@ public final class PromiseTest {
         due("RANGE alone", ends.shows(), 1);
         ends.fault(0, 1, 0);
         due("and one that none shows", ends.shows(), 1);
+        ends.clear();
+        ends.fault(0, 0, 1);
+        ends.fault(0, 0, 1);
+        due("two at once", ends.shows(), 1);
+        ends.clear();
+        ends.fault(0, 0, 1);
+        ends.fault(0, 1, 1);
+        due("then two apart", ends.shows(), 2);
         StepMeters wide = new StepMeters();
         wide.range(4095);
         for (int m = 0; m < 7; m++) {
