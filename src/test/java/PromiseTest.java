@@ -6,53 +6,9 @@ import java.util.Arrays;
 import java.util.TreeSet;
 
 /** One method a promise, each with answers worked out by hand from the document. */
-public final class PromiseTest {
-    private static final int LEAST = Integer.MIN_VALUE;
-    private static final int MOST = Integer.MAX_VALUE;
-    private static int wrong = 0;
-    private static int asked = 0;
-    private static String promise = "";
-
-    private static void due(String call, long got, long want) {
-        asked++;
-        if (got != want) {
-            wrong++;
-            System.out.println(promise + ": " + call + " answered " + got + ", due is " + want);
-        }
-    }
-
-    private static void due(String call, boolean got, boolean want) {
-        due(call, got ? 1 : 0, want ? 1 : 0);
-    }
-
-    /** A call that must be refused, and the TROUBLE that tells why. */
-    private static void refused(StepMeters x, String call, long got, long want, int trouble) {
-        due(call, got, want);
-        due(call + " then trouble()", x.trouble(), trouble);
-    }
-
-    private static void refused(StepMeters x, String call, boolean got, int trouble) {
-        refused(x, call, got ? 1 : 0, 0, trouble);
-    }
-
-    /** A bench with one METER of a kind, its PARTS all with one BOUND. */
-    private static StepMeters bench(int range, int kind, int bound, int... sizes) {
-        StepMeters x = new StepMeters();
-        x.range(range);
-        add(x, kind, bound, sizes);
-        return x;
-    }
-
-    private static int add(StepMeters x, int kind, int bound, int... sizes) {
-        int m = x.meter(kind);
-        for (int size : sizes) {
-            x.part(m, size, bound);
-        }
-        return m;
-    }
-
+public final class PromiseTest extends Checks {
     private static void face() {
-        promise = "face";
+        of("face");
         due("NONE", StepMeters.NONE, -1);
         TreeSet<String> names = new TreeSet<>();
         for (Method m : StepMeters.class.getDeclaredMethods()) {
@@ -1101,12 +1057,9 @@ public final class PromiseTest {
             PromiseTest::p32Alike, PromiseTest::p33Beyond, PromiseTest::p34Joined, PromiseTest::p35Undo,
             PromiseTest::p36Size, PromiseTest::p37Trouble};
         for (int i = 0; i < all.length; i++) {
-            promise = "promise " + i;
+            of("promise " + i);
             all[i].run();
         }
-        System.out.println(asked + " answers asked, " + wrong + " not as due");
-        if (wrong != 0) {
-            System.exit(1);
-        }
+        end();
     }
 }
