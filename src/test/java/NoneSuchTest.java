@@ -130,6 +130,34 @@ public final class NoneSuchTest extends Checks {
         due("trouble", x.trouble(), 0);
     }
 
+    private static void rangeMadeLess() {
+        of("12 to 19: nothing beyond RANGE is told, though it was told ahead of a range");
+        StepMeters x = bench(20, 0, 0, 2, 4, 6, 9);
+        due("n is 4: the worst is 3 * 4 - 2 * 7", x.line(0, 0), 2);
+        x.range(8);
+        // n is 3 with EDGES 2, 4, 6.
+        due("line", x.line(0, 0), 0);
+        due("its k", x.line(0, 1), 1);
+        due("spans", x.spans(0), 4);
+        due("the last SPAN", x.span(0, 3, 1), 8);
+        due("no SPAN 4", x.span(0, 4, 0), LEAST);
+        due("codes", x.codes(0), 4);
+        due("lacks", x.lacks(0), 0);
+        due("widest", x.widest(0), 30003);
+        due("edge of 4", x.edge(0, 4), 9);
+        StepMeters y = bench(20, 2, 0, 9, 3);
+        y.worth(0, 0, -50);
+        due("back", y.back(0), 9);
+        y.range(8);
+        due("not back", y.back(0), -2);
+        due("so it has a LINE", y.line(0, 0), 0);
+        StepMeters z = bench(20, 2, 0, 9);
+        due("0 and 9", z.lacks(0), 8);
+        z.range(8);
+        due("0 alone", z.lacks(0), 0);
+        refused(z, "too few codes", z.line(0, 0), -1, 5);
+    }
+
     private static void mendedWorths() {
         of("22: WORTHS become what PARTS are (a MISS with them)");
         StepMeters x = bench(20, 2, 0, 8000, -8000, 0, 5);
@@ -250,6 +278,13 @@ public final class NoneSuchTest extends Checks {
         due("0 .. 19 the sixth", x.shows(), 2);
         x.range(19);
         due("without RANGE 20", x.shows(), 1);
+        StepMeters off = bench(20, 0, 0, -1, 21);
+        off.fault(0, 0, 1);
+        due("-1 alone would show it", off.shows(), 0);
+        off.fault(0, 1, 1);
+        due("RANGE + 1 alone would show it", off.shows(), 0);
+        off.range(21);
+        due("RANGE shows it now", off.shows(), 1);
     }
 
     private static void showingBits() {
@@ -301,6 +336,16 @@ public final class NoneSuchTest extends Checks {
         first.fault(0, 1, 1);
         first.fault(0, 1, 0);
         due("0 tells the third from the others", first.alike(), 1);
+        StepMeters off = bench(20, 0, 0, -1, 21);
+        off.fault(0, 0, 0);
+        off.fault(0, 0, 1);
+        due("-1 alone would tell them apart", off.alike(), 1);
+        off.clear();
+        off.fault(0, 1, 0);
+        off.fault(0, 1, 1);
+        due("RANGE + 1 alone would tell them apart", off.alike(), 1);
+        off.range(21);
+        due("RANGE tells them apart now", off.alike(), 0);
     }
 
     private static void beyondEnds() {
@@ -401,6 +446,7 @@ public final class NoneSuchTest extends Checks {
         backFirst();
         widestFirstOfEqual();
         edgeBeyondRange();
+        rangeMadeLess();
         mendedWorths();
         countBothEnds();
         stillAndClear();
