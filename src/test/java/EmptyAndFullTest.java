@@ -261,6 +261,40 @@ public final class EmptyAndFullTest extends Checks {
         due("count", least.count(0, 0, 255, 1, -128000), 256);
     }
 
+    private static void greatestCodeWithMendedWorths() {
+        of("14, 15: the greatest code that there can be: eight WORTHS mended at 8,500, eight of 8,000");
+        StepMeters x = new StepMeters();
+        x.range(4095);
+        x.meter(2);
+        for (int k = 0; k < 16; k++) {
+            x.part(0, k < 8 ? -8000 : 8000, 0);
+            x.miss(0, k, k < 8 ? -500 : 500);
+        }
+        x.mend(0);
+        for (int k = 0; k < 16; k++) {
+            if (k < 8) {
+                x.worth(0, k, 8000);
+            } else {
+                x.miss(0, k, -500);
+            }
+        }
+        // All are kept: 8 times 7,500 is below 8 times 8,500.
+        due("read", x.read(0, 0), 132000);
+        due("read at RANGE", x.read(0, 4095), 132000);
+        due("codes", x.codes(0), 1);
+        due("lacks: 0 .. 131,999", x.lacks(0), 132000);
+        due("edge", x.edge(0, 132000), 0);
+        due("edge of one more", x.edge(0, 132001), 4096);
+        due("tail: together below 0", x.tail(0), -132000);
+        due("count", x.count(0, 0, 4095, 1, 132000), 4096);
+        due("joined: its REST is beyond", x.joined(0, 0, 1000, 0), LEAST);
+        for (int i = 0; i < 8; i++) {
+            x.noise(0, 1000);
+        }
+        due("mean", x.mean(0, 0, false), 132000);
+        due("of 1", x.mean(0, 0, true), 1);
+    }
+
     private static void noiseFull() {
         of("26: MEAN of a full NOISE");
         StepMeters x = bench(4095, 2, 0, 2048, 1024, 512, 256, 128, 64, 32, 16, 8, 4, 2, 1);
@@ -321,6 +355,7 @@ public final class EmptyAndFullTest extends Checks {
         leastRange();
         allMetersAndParts();
         greatestCodes();
+        greatestCodeWithMendedWorths();
         noiseFull();
         faultsFull();
         end();

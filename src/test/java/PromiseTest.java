@@ -1,32 +1,5 @@
-import java.lang.reflect.Constructor;
-import java.lang.reflect.Field;
-import java.lang.reflect.Method;
-import java.lang.reflect.Modifier;
-import java.util.Arrays;
-import java.util.TreeSet;
-
 /** One method a promise, each with answers worked out by hand from the document. */
 public final class PromiseTest extends Checks {
-    private static void face() {
-        of("face");
-        due("NONE", StepMeters.NONE, -1);
-        TreeSet<String> names = new TreeSet<>();
-        for (Method m : StepMeters.class.getDeclaredMethods()) {
-            if (!Modifier.isPrivate(m.getModifiers())) {
-                names.add(m.getName() + Arrays.toString(m.getParameterTypes()) + m.getReturnType());
-            }
-        }
-        due("public methods", names.size(), 36);
-        int open = 0;
-        for (Field f : StepMeters.class.getDeclaredFields()) {
-            open += Modifier.isPrivate(f.getModifiers()) ? 0 : 1;
-        }
-        due("public fields", open, 1);
-        Constructor<?>[] made = StepMeters.class.getDeclaredConstructors();
-        due("constructors", made.length, 1);
-        due("public final", Modifier.isFinal(StepMeters.class.getModifiers()), true);
-    }
-
     private static void p1NewObject() {
         StepMeters x = new StepMeters();
         due("trouble", x.trouble(), 0);
@@ -1046,7 +1019,7 @@ public final class PromiseTest extends Checks {
 
     public static void main(String[] args) {
         Runnable[] all = {
-            PromiseTest::face, PromiseTest::p1NewObject, PromiseTest::p2Range, PromiseTest::p3Meter,
+            PromiseTest::p1NewObject, PromiseTest::p2Range, PromiseTest::p3Meter,
             PromiseTest::p4Part, PromiseTest::p5Miss, PromiseTest::p6Worth, PromiseTest::p7PartOf,
             PromiseTest::p8Kind, PromiseTest::p9Read, PromiseTest::p10Trail, PromiseTest::p11Rest,
             PromiseTest::p12Spans, PromiseTest::p13Span, PromiseTest::p14Codes, PromiseTest::p15Lacks,
@@ -1057,7 +1030,7 @@ public final class PromiseTest extends Checks {
             PromiseTest::p32Alike, PromiseTest::p33Beyond, PromiseTest::p34Joined, PromiseTest::p35Undo,
             PromiseTest::p36Size, PromiseTest::p37Trouble};
         for (int i = 0; i < all.length; i++) {
-            of("promise " + i);
+            of("promise " + (i + 1));
             all[i].run();
         }
         end();
